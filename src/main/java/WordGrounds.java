@@ -570,8 +570,8 @@ public final class WordGrounds {
 
     /**
      * Which sets GROUND ALL. A set does so just if all BARE WORDS are in it and the WORDS outside it
-     * make no circle among themselves. So BARE WORDS and those that USE themselves must be told; of
-     * the others only those in RINGS ever need to be, and each set of these is looked at once.
+     * make no circle among themselves. So BARE WORDS must be told; of the others only those in RINGS
+     * ever need to be, and each set of these is looked at once.
      */
     private static final class Tellings {
         private int must = 0;
@@ -580,12 +580,8 @@ public final class WordGrounds {
         private final long[] circleFree = new long[(1 << MOST_WORDS) / BITS_OF_LONG];
 
         private void find(Words words, Rings rings) {
-            int selfUsers = 0;
-            for (int word = 0; word < words.total; word++) {
-                selfUsers |= words.definitions[word] & 1 << word;
-            }
-            must = words.all() & ~words.defined | selfUsers;
-            may = rings.inRings & ~selfUsers;
+            must = words.all() & ~words.defined;
+            may = rings.inRings;
             int subsets = 1 << Integer.bitCount(may);
             int set = 0;
             for (int seen = 0; seen < subsets; seen++) {

@@ -403,6 +403,11 @@ public final class PromiseTest {
         planIs(z, set("ac"), 2, 2, 1);
         z.know(set("d"));
         planIs(z, set("a"), 1, 1, 1);
+        z.size(3);
+        planIs(z, set("a"), 1, 1, 1);
+        z.size(4);
+        planIs(z, set("ad"), 2, 2, 1);
+        planIs(of(2, "a:a", "b:b"), set("ab"), 2, 2, 0);
         planIs(of(2, "a:", "b:a"), 0, 0, 0, 2);
         planIs(new WordGrounds(), 255, 8, 8, 0);
         planIs(chain(), set("n"), 1, 1, 13);
@@ -564,6 +569,7 @@ public final class PromiseTest {
         x.image(1);
         say(x, "a:bb");
         x.define();
+        due("THE PLAN of the changed WORDS", x.plan(0), set("a"));
         due("restore(0)", x.restore(0), 1);
         due("SIZE", x.count(0), 9);
         due("COST", x.count(10), 3);
