@@ -2,7 +2,8 @@ import java.util.Random;
 
 /** Long runs of calls with fixed seeds, each answer held against a slow model that follows the document's words. */
 public final class ModelTest {
-    private static final int CALLS = 512;
+    /** An object is used for at most 512 calls; the last one may bring a define() along. */
+    private static final int CALLS = 511;
 
     public static void main(String[] args) {
         for (int seed = 1; seed <= 300; seed++) {
@@ -51,6 +52,7 @@ public final class ModelTest {
                 return false;
             }
             if (name.equals("say") && text.isEmpty()) {
+                made++;
                 int told = program.define();
                 int due = model.define();
                 row.append(" define()=").append(told);
