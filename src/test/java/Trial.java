@@ -95,6 +95,34 @@ final class Trial {
         return answer;
     }
 
+    /** The call of a name; one that takes fewer numbers leaves the rest aside. */
+    static int call(WordGrounds x, String name, int first, int second) {
+        switch (name) {
+            case "size": return x.size(first);
+            case "say": return x.say(first);
+            case "wipe": return x.wipe();
+            case "define": return x.define();
+            case "fault": return x.fault();
+            case "uses": return x.uses(first);
+            case "users": return x.users(first);
+            case "cost": return x.cost(first, second);
+            case "grounds": return x.grounds(first);
+            case "day": return x.day(first, second);
+            case "learned": return x.learned(first, second);
+            case "know": return x.know(first);
+            case "plan": return x.plan(first);
+            case "saves": return x.saves(first);
+            case "least": return x.least(first);
+            case "way": return x.way(first, second);
+            case "ring": return x.ring(first);
+            case "lie": return x.lie(first);
+            case "image": return x.image(first);
+            case "restore": return x.restore(first);
+            case "count": return x.count(first);
+            default: throw new IllegalStateException(name);
+        }
+    }
+
     /** So many WORDS, DEFINED by texts. */
     static WordGrounds of(int size, String... texts) {
         WordGrounds x = new WordGrounds();
